@@ -1,0 +1,95 @@
+import java.nio.charset.StandardCharsets;
+import java.util.NoSuchElementException;
+import java.util.function.LongSupplier;
+
+/** What the tests share: texts fed to an object, answers compared, wrong ones printed. */
+final class Check {
+    /** An answer that stands for an exception; no call answers a number so low. */
+    static final long NO_SUCH = -1_000_001;
+    static final long ILLEGAL = -1_000_002;
+
+    private final String name;
+    private int wrong;
+
+    Check(String name) {
+        this.name = name;
+    }
+
+    /** The call's answer, or the number of the exception that it throws. */
+    static long answer(LongSupplier call) {
+        try {
+            return call.getAsLong();
+        } catch (NoSuchElementException e) {
+            return NO_SUCH;
+        } catch (IllegalArgumentException e) {
+            return ILLEGAL;
+        }
+    }
+
+    void due(String what, long want, LongSupplier call) {
+        same(what, want, answer(call));
+    }
+
+    void due(String what, boolean want, boolean got) {
+        same(what, want ? 1 : 0, got ? 1 : 0);
+    }
+
+    void same(String what, long want, long got) {
+        if (want != got) {
+            wrong++;
+            System.out.println(name + ": " + what + " answered " + told(got) + ", due is " + told(want));
+        }
+    }
+
+    private static String told(long answer) {
+        if (answer == NO_SUCH) {
+            return "NoSuchElementException";
+        }
+        return answer == ILLEGAL ? "IllegalArgumentException" : Long.toString(answer);
+    }
+
+    void end() {
+        if (wrong > 0) {
+            System.out.println(name + ": " + wrong + " wrong");
+            System.exit(1);
+        }
+        System.out.println(name + ": all answers are as due");
+    }
+
+    /** Feeds a text, filled up with blanks; its own length. */
+    static int feed(SaltBells x, String text) {
+        byte[] bytes = text.getBytes(StandardCharsets.ISO_8859_1);
+        for (int at = 0; at < bytes.length; at += 20) {
+            int[] five = new int[5];
+            for (int i = 0; i < 20; i++) {
+                int b = at + i < bytes.length ? bytes[at + i] & 255 : ' ';
+                five[i / 4] = five[i / 4] << 8 | b;
+            }
+            x.feed(five[0], five[1], five[2], five[3], five[4]);
+        }
+        return bytes.length;
+    }
+
+    static int flat(SaltBells x, String text) {
+        return x.flat(feed(x, text));
+    }
+
+    static int orders(SaltBells x, String text) {
+        return x.orders(feed(x, text));
+    }
+
+    /** A new object with a flat that has no fault. */
+    SaltBells with(String text) {
+        SaltBells x = new SaltBells();
+        same("flat of '" + text + "'", 0, flat(x, text));
+        return x;
+    }
+
+    /** How he is: cell, heading and how, as one row of numbers. */
+    void walker(SaltBells x, int walker, int... wants) {
+        for (int what = 0; what < wants.length; what++) {
+            int asked = what;
+            due("walker(" + walker + ", " + what + ")", wants[what], () -> x.walker(walker, asked));
+        }
+    }
+}
