@@ -12,6 +12,7 @@ public final class FateTest {
         nights();
         nightsOfSilentTowers();
         images();
+        imageOfALongPast();
         CHECK.end();
     }
 
@@ -173,6 +174,23 @@ public final class FateTest {
         due("the tape is as it was", 20, () -> x.feed(0, 0, 0, 0, 0));
         x.restore();
         due("the tape is not in it", 20, () -> x.count(12));
+    }
+
+    private static void imageOfALongPast() {
+        SaltBells x = CHECK.with("tower 5 5 1 0;camel 0 0 0;");
+        x.ring(0, 50);
+        x.ring(1, 70);
+        x.image();
+        x.ring(0, 45);
+        x.restore();
+        due("the eldest", -2, () -> x.why(0, 0));
+        for (int i = 0; i < 70; i++) {
+            x.undo();
+        }
+        due("as it was before the bell rang", 99, () -> x.tower(0, 3));
+        due("strokes", 50, () -> x.walker(0, 6));
+        x.undo();
+        due("before that it was still", 99, () -> x.tower(0, 3));
     }
 
     private static int[] all(SaltBells x) {

@@ -48,6 +48,9 @@ public final class PlanTest {
         SaltBells taken = CHECK.with("tower 0 0 1 0;tower 1 1 1 1 false;plain 0 1 9;plain 2 1 9;");
         due("none is taken", 1, () -> taken.best(1));
         plan(taken, 1);
+        SaltBells later = CHECK.with("tower 0 1 5 0 false;tower 1 3 2 1 strokes 1;tower 0 5 5 2;plain 3 3 9;plain 0 0 9;");
+        due("one comes in by either", 1, () -> later.best(2));
+        plan(later, 4, 2);
         SaltBells must = CHECK.with("flat 4 2;tower 0 0 1 0;tower 3 0 1 1 false;plain 3 0 1;plain 1 0 0;camel 1 1 0;");
         due("one of them falls", 1, () -> must.best(3));
         SaltBells none = CHECK.with("tower 0 0 1 0;tower 1 0 1 0;");

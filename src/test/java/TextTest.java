@@ -11,6 +11,7 @@ public final class TextTest {
         faultsOfFlats();
         whatAFaultLeaves();
         whatAFlatEnds();
+        secondFlats();
         goodOrders();
         faultsOfOrders();
         CHECK.end();
@@ -103,6 +104,11 @@ public final class TextTest {
         bad("night 1;\u0080", 1, 8);
         bad("night\t1;", 1, 5);
         bad("nights 1;", 1, 0);
+        bad("nightz 1;", 1, 0);
+        bad("zight 1;", 1, 0);
+        bad("might 1;", 1, 0);
+        bad("night 1;z", 1, 8);
+        bad("night 1;night`", 4, 8);
         bad("nightnight 1;", 1, 0);
         bad("night one;", 1, 6);
         bad("night 1 2;", 1, 8);
@@ -116,6 +122,8 @@ public final class TextTest {
         bad("wind north 1;wind north 1;", 4, 13);
         bad("wind 1;", 1, 5);
         bad("flat 1 2;", 2, 5);
+        bad("flat 11 2;", 2, 5);
+        bad("flat 2 1;", 2, 7);
         bad("flat 2 11;", 2, 7);
         bad("flat 2;", 1, 6);
         bad("night 1;flat 0;", 3, 8);
@@ -186,6 +194,24 @@ public final class TextTest {
         due("walker(0, 0)", Check.NO_SUCH, () -> x.walker(0, 0));
     }
 
+    private static void secondFlats() {
+        SaltBells x = CHECK.with("flat 8 9;wind south 2;night 3;mirage 5 3;mirage 0 0;tower 0 0 9 0;tower 1 0 9 1;plain 5 3 9;");
+        x.ring(3, 3);
+        CHECK.same("a second flat", 0, Check.flat(x, "tower 2 3 4 0;plain 5 3 9;tower 2 4 9 2;"));
+        int[] counts = {6, 6, 2, 1, 0, 0, 0};
+        for (int i = 0; i < counts.length; i++) {
+            int what = i;
+            due("second count(" + what + ")", counts[what], () -> x.count(what));
+        }
+        CHECK.walker(x, 0, 0, 23, 9, 0, 0, -1, 0);
+        x.stroke(1);
+        CHECK.walker(x, 0, 0, 22, 8, 3, 0, 0, 1);
+        CHECK.same("a third flat", 0, Check.flat(x, "wind south 2;night 3;mirage 5 3;mirage 0 0;"));
+        due("wind", 2, () -> x.count(4));
+        CHECK.same("a fault", 1, Check.flat(x, "wind west 2;night 4;mirage 1 1;tower 1 1 1 0;child 1 1 1;x"));
+        CHECK.same("told once since", 0, Check.flat(x, "wind west 2;night 4;mirage 1 1;tower 1 1 1 0;child 1 1 1;"));
+    }
+
     private static void goodOrders() {
         SaltBells x = CHECK.with("tower 2 3 4 0 strokes 3;tower 0 0 4 0;");
         CHECK.same("orders of none", 0, Check.orders(x, " \n"));
@@ -198,6 +224,10 @@ public final class TextTest {
         due("status 1", 1, () -> x.count(14));
         due("status 0", 0, () -> x.count(13));
         due("fault()", -1, x::fault);
+        CHECK.same("once again", 1, Check.orders(x, "again 1{ring;}"));
+        CHECK.same("20 times", 20, Check.orders(x, "again 20{ring 1;}"));
+        CHECK.same("an again that isn't closed", -2, Check.orders(x, "again 20{again 3{"));
+        CHECK.same("is forgotten", -2, Check.orders(x, "}"));
         CHECK.same("200 and no more", 200, Check.orders(x, "again 20{again 5{ring;ring;}}ring 0;"));
         due("the 201st wasn't tried", 1, () -> x.count(14));
         CHECK.same("200 in the midst", 200, Check.orders(x, "again 7{again 7{again 7{ring;}}}"));
