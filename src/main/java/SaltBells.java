@@ -1251,13 +1251,12 @@ public final class SaltBells {
             folk = new Folk(ground, ears, feet);
         }
 
+        /** All anew but the status: only an image takes back what was refused. */
         void begin() {
             folk.begin();
             first = 0;
             done = 0;
             undone = 0;
-            refusedTexts = 0;
-            refusedStrokes = 0;
         }
 
         void take(Course other) {

@@ -118,7 +118,6 @@ final class Model {
         start.left = flat.towers.stream().mapToInt(t -> t.strokes).toArray();
         moments = new ArrayList<>(List.of(start));
         now = 0;
-        status = new int[2];
         search = null;
         best = new int[0];
         imageMoments = null;

@@ -11,6 +11,7 @@ public final class TextTest {
         faultsOfFlats();
         whatAFaultLeaves();
         whatAFlatEnds();
+        statusStaysByFlats();
         secondFlats();
         goodOrders();
         faultsOfOrders();
@@ -182,7 +183,7 @@ public final class TextTest {
         x.image();
         CHECK.same("orders with a fault", -2, Check.orders(x, "x"));
         CHECK.same("a second flat", 0, Check.flat(x, "night 2;"));
-        for (int what = 7; what <= 14; what++) {
+        for (int what = 7; what <= 12; what++) {
             int asked = what;
             due("count(" + what + ") of a second flat", 0, () -> x.count(asked));
         }
@@ -192,6 +193,38 @@ public final class TextTest {
         due("restore()", 0, () -> x.restore() ? 1 : 0);
         due("tower(0, 0)", Check.NO_SUCH, () -> x.tower(0, 0));
         due("walker(0, 0)", Check.NO_SUCH, () -> x.walker(0, 0));
+    }
+
+    private static void statusStaysByFlats() {
+        SaltBells x = new SaltBells();
+        x.stroke(1);
+        x.ring(-1, 200);
+        CHECK.same("a flat with a fault", 1, Check.flat(x, "x"));
+        CHECK.same("a flat", 0, Check.flat(x, "tower 2 3 4 0 strokes 1;"));
+        status("by a flat", x, 1, 2);
+        CHECK.same("orders with a fault", -2, Check.orders(x, "x"));
+        CHECK.same("orders till one can't be", 1, Check.orders(x, "ring 0;ring 0;"));
+        status("goes on from there", x, 2, 3);
+        x.image();
+        CHECK.same("a second fault", 2, Check.flat(x, "night 10;"));
+        x.stroke(1);
+        status("behind the image", x, 3, 4);
+        x.restore();
+        status("as in the image", x, 2, 3);
+        CHECK.same("a second flat", 0, Check.flat(x, ""));
+        status("by a second flat", x, 2, 3);
+        CHECK.same("a third flat", 0, Check.flat(x, "night 9;"));
+        due("no image is left", 0, () -> x.restore() ? 1 : 0);
+        status("by a third flat", x, 2, 3);
+        x.image();
+        x.stroke(1);
+        x.restore();
+        status("as in an image of the third flat", x, 2, 3);
+    }
+
+    private static void status(String when, SaltBells x, int texts, int strokes) {
+        due("status 0 " + when, texts, () -> x.count(13));
+        due("status 1 " + when, strokes, () -> x.count(14));
     }
 
     private static void secondFlats() {
