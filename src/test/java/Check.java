@@ -9,10 +9,35 @@ final class Check {
     static final long ILLEGAL = -1_000_002;
 
     private final String name;
+    private final Document document = Document.read();
+    private String sentence = "";
     private int wrong;
+    private int compared;
+    private int comparedBefore = -1;
 
     Check(String name) {
         this.name = name;
+    }
+
+    /** What is compared from here on tests these words of the document, of that part of it. */
+    void sentence(String where, String words) {
+        endSentence();
+        sentence = " [" + where + ": " + words + "]";
+        comparedBefore = compared;
+        if (document != null && !document.says(where, words)) {
+            complain("the document says no such thing");
+        }
+    }
+
+    private void endSentence() {
+        if (compared == comparedBefore) {
+            complain("nothing tests the sentence");
+        }
+    }
+
+    private void complain(String what) {
+        wrong++;
+        System.out.println(name + sentence + ": " + what);
     }
 
     /** The call's answer, or the number of the exception that it throws. */
@@ -35,9 +60,9 @@ final class Check {
     }
 
     void same(String what, long want, long got) {
+        compared++;
         if (want != got) {
-            wrong++;
-            System.out.println(name + ": " + what + " answered " + told(got) + ", due is " + told(want));
+            complain(what + " answered " + told(got) + ", due is " + told(want));
         }
     }
 
@@ -49,11 +74,15 @@ final class Check {
     }
 
     void end() {
+        endSentence();
         if (wrong > 0) {
             System.out.println(name + ": " + wrong + " wrong");
             System.exit(1);
         }
         System.out.println(name + ": all answers are as due");
+        if (document == null) {
+            System.out.println(name + ": without the document the sentences' words were not compared");
+        }
     }
 
     /** Feeds a text, filled up with blanks; its own length. */
@@ -85,7 +114,18 @@ final class Check {
         return x;
     }
 
-    /** How he is: cell, heading and how, as one row of numbers. */
+    void count(SaltBells x, int what, int want) {
+        due("count(" + what + ")", want, () -> x.count(what));
+    }
+
+    /** All counts, from the first on, as one row of numbers. */
+    void counts(SaltBells x, int... wants) {
+        for (int what = 0; what < wants.length; what++) {
+            count(x, what, wants[what]);
+        }
+    }
+
+    /** How he is: kind, cell, water and so on, as one row of numbers. */
     void walker(SaltBells x, int walker, int... wants) {
         for (int what = 0; what < wants.length; what++) {
             int asked = what;
