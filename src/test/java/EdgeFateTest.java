@@ -1,4 +1,6 @@
 import java.math.BigInteger;
+import java.util.HashMap;
+import java.util.Map;
 import java.util.function.LongSupplier;
 
 /** Sentences with a boundary case, each with its test: for ever, nights, status and images (Terms 5), promises 23 to 26. */
@@ -11,6 +13,7 @@ public final class EdgeFateTest {
         asIfEnough();
         rings();
         ringsOfAStubbornOne();
+        ringsByStrokes();
         draws();
         seeds();
         status();
@@ -92,6 +95,44 @@ public final class EdgeFateTest {
         lured.stroke(1);
         ends(lured, 0, 3, 3, 2);
         ends(lured, 1, 3, 1, 4);
+    }
+
+    /** From every cell of a small flat, by every kind and set: as the strokes themselves go, one by one. */
+    private static void ringsByStrokes() {
+        CHECK.sentence("Terms 5", "he comes to be as he was, in CELL, HEADING, what he FOLLOWED, and as a child");
+        String flat = "flat 4 4;tower 1 1 2 0;tower 3 2 1 1;tower 0 3 3 1 false;mirage 2 1;mirage 1 2;mirage 0 1;";
+        for (String kind : new String[] {"plain", "stubborn", "fearful", "child", "camel"}) {
+            for (int start = 0; start < 16; start++) {
+                for (int set = 0; set < 8; set++) {
+                    SaltBells x = CHECK.with(flat + kind + " " + start % 4 + " " + start / 4 + " 99;");
+                    x.stroke(start % 3);
+                    if (x.walker(0, 4) == 0) {
+                        int how = x.forever(0, set, 0);
+                        int after = x.forever(0, set, 1);
+                        String what = kind + " from " + start + " by " + set;
+                        CHECK.same(what, endByStrokes(x, set), 1000 * how + after);
+                    }
+                }
+            }
+        }
+    }
+
+    /** How he ends and after how many strokes, as one number. */
+    private static int endByStrokes(SaltBells x, int set) {
+        Map<String, Integer> times = new HashMap<>();
+        for (int time = 0; time < 90; time++) {
+            int how = x.walker(0, 4);
+            if (how != 0) {
+                return 1000 * how + time;
+            }
+            String child = x.walker(0, 0) == 3 ? " " + x.walker(0, 6) % 2 : "";
+            Integer before = times.put(x.walker(0, 1) + " " + x.walker(0, 3) + " " + x.walker(0, 5) + child, time);
+            if (before != null) {
+                return 3000 + time - before;
+            }
+            x.stroke(set);
+        }
+        return -1;
     }
 
     /** The draws of a seed by numbers that don't wrap: 32 bits are kept, and of these bits 16 to 30. */
@@ -280,6 +321,11 @@ public final class EdgeFateTest {
     }
 
     private static void foreverWhat() {
+        CHECK.sentence("Promise 23", "how (what 0), after how many STROKES (1).");
+        SaltBells both = CHECK.with("tower 0 0 9 0;plain 2 0 9;plain 0 5 9;");
+        ends(both, 0, 1, 1, 2);
+        ends(both, 1, 0, 3, 4);
+
         CHECK.sentence("Promise 23", "NoSuchElementException: also another what.");
         SaltBells x = CHECK.with("tower 0 0 1 0;plain 0 0 9;");
         for (int times = 0; times < 2; times++) {

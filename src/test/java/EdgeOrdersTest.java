@@ -10,6 +10,7 @@ public final class EdgeOrdersTest {
         steps();
         times();
         within();
+        withinAnew();
         faultOne();
         faultTwo();
         faultFour();
@@ -91,6 +92,14 @@ public final class EdgeOrdersTest {
         bad(TWO, "again 2{again 2{again 2{}again 2{again 2{}}}}", 2, 33);
     }
 
+    private static void withinAnew() {
+        CHECK.sentence("Terms 3", "at most three within one another)");
+        SaltBells x = CHECK.with(TWO);
+        CHECK.same("three that aren't closed", -2, Check.orders(x, "again 2{again 2{again 2{"));
+        CHECK.same("they are forgotten", -2, Check.orders(x, "}"));
+        CHECK.same("three within", 8, Check.orders(x, "again 2{again 2{again 2{ring;}}}"));
+    }
+
     private static final String ALL_STEPS = "ring 0 1;again 2{ring;again 3{again 4{ring 1;}}}ring 0;";
 
     private static void faultOne() {
@@ -100,15 +109,14 @@ public final class EdgeOrdersTest {
             String text = ALL_STEPS.substring(0, n);
             char last = n == 0 ? ';' : ALL_STEPS.charAt(n - 1);
             depth += last == '{' ? 1 : last == '}' ? -1 : 0;
-            int word = startOfWordCut(n);
+            int word = Tokens.startOfWordCut(ALL_STEPS, n);
             SaltBells x = CHECK.with(TWO);
             boolean whole = depth == 0 && (last == ';' || last == '}');
             CHECK.due("'" + text + "' is whole", whole, Check.orders(x, text) >= 0);
             CHECK.same("fault() of '" + text + "'", whole ? -1 : word >= 0 ? word : n, x.fault());
         }
         for (int at = 0; at < ALL_STEPS.length(); at++) {
-            boolean inWord = isLetter(at) && at > 0 && isLetter(at - 1);
-            if (ALL_STEPS.charAt(at) != ' ' && !inWord) {
+            if (Tokens.starts(ALL_STEPS, at)) {
                 for (String wrong : new String[] {"flat", "x", "?", "\u00e9"}) {
                     bad(TWO, ALL_STEPS.substring(0, at) + " " + wrong, 1, at + 1);
                 }
@@ -127,22 +135,6 @@ public final class EdgeOrdersTest {
         bad(TWO, "again 2{}}", 1, 9);
         bad(TWO, "again 2{};", 1, 9);
         bad(TWO, "again 2 2{}", 1, 8);
-    }
-
-    /** Where a word begins that is cut off at n in its midst; -1: none is. */
-    private static int startOfWordCut(int n) {
-        if (n == 0 || n >= ALL_STEPS.length() || !isLetter(n - 1) || !isLetter(n)) {
-            return -1;
-        }
-        int at = n - 1;
-        while (at > 0 && isLetter(at - 1)) {
-            at--;
-        }
-        return at;
-    }
-
-    private static boolean isLetter(int at) {
-        return Character.isLetter(ALL_STEPS.charAt(at));
     }
 
     private static void faultTwo() {
@@ -201,7 +193,7 @@ public final class EdgeOrdersTest {
     }
 
     private static void answers() {
-        CHECK.sentence("Promise 4", "done at once: how many STROKES were");
+        CHECK.sentence("Promise 4", "The tape's first n bytes are ORDERS, done at once: how many STROKES were");
         good(TWO, "", 0);
         good(TWO, "again 20{again 20{again 20{}}}", 0);
         good(TWO, "ring;ring 0;again 2{ring 1;}", 4);
@@ -245,6 +237,9 @@ public final class EdgeOrdersTest {
         CHECK.count(x, 7, 0);
         due("the place stays", 9, x::fault);
         due("the first five", 1, () -> x.orders(5));
+        Check.feed(x, "ring 01;");
+        due("a number cut off", -2, () -> x.orders(6));
+        due("its place", 6, x::fault);
         CHECK.count(x, 12, 0);
         due("orders(0) of no tape", 0, () -> x.orders(0));
     }

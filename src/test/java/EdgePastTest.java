@@ -123,7 +123,8 @@ public final class EdgePastTest {
     }
 
     private static void towerWhat() {
-        CHECK.sentence("Promise 7", "NoSuchElementException: no such TOWER (as everywhere), what.");
+        CHECK.sentence("Promise 7", "0 its CELL, 1 RANGE, 2 VOICE, 3 STROKES left, 4 whether it is FALSE (1). "
+            + "NoSuchElementException: no such TOWER (as everywhere), what.");
         SaltBells x = CHECK.with("flat 9 9;tower 8 8 20 3 strokes 1 false;tower 0 1 1 0;");
         int[][] all = {{80, 20, 3, 1, 1}, {9, 1, 0, 99, 0}};
         for (int t = 0; t < all.length; t++) {
@@ -157,6 +158,14 @@ public final class EdgePastTest {
         }
         due("why(2, 0)", Check.NO_SUCH, () -> x.why(2, 0));
         due("forever(2, 0, 0)", Check.NO_SUCH, () -> x.forever(2, 0, 0));
+
+        CHECK.sentence("Promise 8", "0 KIND, 1 CELL, 2 WATER, 3 HEADING, 4 how he is (0 out, 1 in, 2 taken, 3 fallen)");
+        SaltBells all = CHECK.with("tower 0 0 9 0;tower 5 5 1 0 false;plain 1 0 9;child 5 5 9;fearful 2 2 0;stubborn 0 5 99;");
+        all.ring(3, 2);
+        CHECK.walker(all, 0, 0, 0, 8, 3, 1);
+        CHECK.walker(all, 1, 3, 35, 7, 0, 2);
+        CHECK.walker(all, 2, 2, 14, 0, 0, 3);
+        CHECK.walker(all, 3, 1, 18, 97, 0, 0);
 
         CHECK.sentence("Promise 8", "5 which TOWER he FOLLOWED last (NONE)");
         SaltBells y = CHECK.with("tower 0 0 9 0;tower 5 5 9 1;plain 3 3 9;");

@@ -53,6 +53,10 @@ public final class EdgePlanTest {
         x.ring(1, 2);
         due("two are in already", 2, () -> x.best(2));
         due("the next", 1, () -> x.best(1));
+        SaltBells child = CHECK.with("tower 0 0 9 0;camel 5 5 0;camel 5 5 0;camel 5 5 0;child 1 0 9;");
+        due("a child that rests", 0, () -> child.best(1));
+        child.stroke(1);
+        due("a child that rested", 1, () -> child.best(1));
     }
 
     private static void thatCanBe() {
@@ -81,6 +85,9 @@ public final class EdgePlanTest {
         plan(x, 2, 1);
         due("by one stroke", 1, () -> x.best(1));
         plan(x, 1);
+        SaltBells ahead = CHECK.with("tower 0 1 5 1 false;tower 0 0 1 0;plain 2 0 9;plain 2 0 9;plain 0 1 9;");
+        due("two come in, though rows behind it take none", 2, () -> ahead.best(2));
+        plan(ahead, 1, 2);
         SaltBells all = CHECK.with("tower 0 0 1 0;tower 5 0 1 0;tower 0 5 1 0;tower 5 5 1 0;"
             + "camel 0 0 0;camel 5 0 0;camel 0 5 0;camel 5 5 0;");
         due("all four", 4, () -> all.best(1));
@@ -151,7 +158,8 @@ public final class EdgePlanTest {
     }
 
     private static void worthOfATower() {
-        CHECK.sentence("Terms 5", "WORTH of a TOWER: by how many more come in than if it had no STROKES left (rows without it), by THE BEST n.");
+        CHECK.sentence("Terms 5", "WORTH of a TOWER: by how many more come in than if it had no STROKES left "
+            + "(rows without it), by THE BEST n.");
         SaltBells x = CHECK.with(LURE);
         due("the true one", 2, () -> x.worth(0, 2));
         due("the false one, which lures", 1, () -> x.worth(1, 2));

@@ -110,6 +110,15 @@ public final class EdgeSearchTest {
         due("in a column", 3, () -> x.seen(1, false, false));
         due("not in it", 0, () -> x.seen(1, false, true));
         due("of none", 0, () -> x.seen(1, false, false));
+        SaltBells headed = CHECK.with("tower 0 0 2 0;");
+        headed.search();
+        headed.stroke(1);
+        headed.stroke(1);
+        due("in row 0", 7, () -> headed.seen(0, true, false));
+        due("not in column 5", 3, () -> headed.seen(5, false, true));
+        headed.stroke(0);
+        due("each goes on by his own heading: two south", 2, () -> headed.cases(10));
+        due("one west", 1, () -> headed.cases(0));
     }
 
     private static void lowestTerms() {
@@ -177,7 +186,8 @@ public final class EdgeSearchTest {
     }
 
     private static void seen() {
-        CHECK.sentence("Promise 17", "how many cases are left; NONE: no SEARCH.");
+        CHECK.sentence("Promise 17", "SEEN in a column (line x, row false), a row (true), or NOT: how many cases are left; "
+            + "NONE: no SEARCH.");
         SaltBells x = CHECK.with("flat 3 5;");
         due("no search", -1, () -> x.seen(0, false, false));
         due("no search", -1, () -> x.seen(4, true, true));

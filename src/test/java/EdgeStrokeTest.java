@@ -155,7 +155,8 @@ public final class EdgeStrokeTest {
     }
 
     private static void children() {
-        CHECK.sentence("Terms 2", "(b) A child rests by every other STROKE by which it is out: by its first one, not by its second one, and so on.");
+        CHECK.sentence("Terms 2", "(b) A child rests by every other STROKE by which it is out: by its first one, "
+            + "not by its second one, and so on.");
         SaltBells x = CHECK.with("flat 10 2;tower 0 0 20 0;child 9 0 99;child 9 1 99;");
         int[] cells = {9, 8, 8, 7, 7, 6};
         for (int i = 0; i < cells.length; i++) {

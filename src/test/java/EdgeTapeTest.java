@@ -44,6 +44,9 @@ public final class EdgeTapeTest {
         due("heard(36)", Check.NO_SUCH, () -> x.heard(36));
         due("tower(0, 0)", Check.NO_SUCH, () -> x.tower(0, 0));
         due("walker(0, 0)", Check.NO_SUCH, () -> x.walker(0, 0));
+        x.search();
+        due("a stroke of none", 0, () -> x.stroke(0));
+        due("nothing is heard, nothing misleads", 2, () -> x.cases(5));
     }
 
     private static void none() {
@@ -80,21 +83,18 @@ public final class EdgeTapeTest {
         CHECK.count(x, 12, 0);
         CHECK.count(x, 6, 5);
         due("what was behind is gone", Check.ILLEGAL, () -> x.flat(1));
+        Check.feed(x, "night 12;");
+        due("a number cut off", 1, () -> x.flat(7));
+        due("its place", 7, x::fault);
+        Check.feed(x, "night 1;nights 1;");
+        due("a word cut off", 4, () -> x.flat(13));
+        due("its place", 8, x::fault);
         due("flat(0) of an empty tape", 0, () -> x.flat(0));
         CHECK.count(x, 6, 0);
         Check.feed(x, "}}");
         due("flat(0) of a tape", 0, () -> x.flat(0));
         CHECK.count(x, 12, 0);
-        SaltBells used = CHECK.with("flat 3 3;tower 0 0 9 0;plain 2 2 9;night 2;wind east 3;mirage 1 1;");
-        used.ring(1, 3);
-        used.undo();
-        CHECK.same("all anew", 0, Check.flat(used, "tower 0 0 9 0;plain 1 1 9;"));
-        CHECK.counts(used, 6, 6, 1, 1, 0, 0, 0, 0, 0, 0, 0, 0, 0, 0, 0);
-        CHECK.walker(used, 0, 0, 7, 9, 0, 0, -1, 0);
-        due("strokes left", 99, () -> used.tower(0, 3));
-        due("no stroke", Check.NO_SUCH, () -> used.why(0, 0));
-        used.stroke(1);
-        due("by no mirage", 6, () -> used.walker(0, 1));
+        anewBehindAnother();
 
         CHECK.sentence("Promise 3", "SEARCH, THE BEST, the image are gone.");
         SaltBells rich = searchedPlannedAndKept();
@@ -104,6 +104,34 @@ public final class EdgeTapeTest {
         due("no search", -1, () -> rich.odds(0, 1));
         due("no best", Check.NO_SUCH, () -> rich.plan(0));
         CHECK.due("no image", false, rich.restore());
+    }
+
+    /** Nothing of the first flat is left in the second one. */
+    private static void anewBehindAnother() {
+        SaltBells x = CHECK.with("flat 7 7;tower 0 0 9 0;tower 6 6 9 0 false;night 2;wind east 3;mirage 1 1;mirage 0 0;"
+            + "plain 1 0 9;plain 5 6 9;plain 3 3 0;camel 4 0 0;");
+        x.ring(1, 1);
+        x.ring(2, 3);
+        x.undo();
+        int[] before = {1, 2, 3, 0};
+        for (int w = 0; w < before.length; w++) {
+            CHECK.same("how " + w + " was", before[w], x.walker(w, 4));
+        }
+        CHECK.same("all anew", 0, Check.flat(x, "mirage 0 0;tower 0 0 20 0;tower 5 5 20 1;fearful 1 1 9;stubborn 1 2 9;"));
+        CHECK.counts(x, 6, 6, 2, 2, 0, 0, 0, 0, 0, 0, 0, 0, 0, 0, 0);
+        CHECK.walker(x, 0, 2, 7, 9, 0, 0, -1, 0);
+        CHECK.walker(x, 1, 1, 13, 9, 0, 0, -1, 0);
+        due("strokes left", 99, () -> x.tower(0, 3));
+        due("it isn't false", 0, () -> x.tower(1, 4));
+        due("no stroke", Check.NO_SUCH, () -> x.why(0, 0));
+        x.stroke(3);
+        due("by no voice of another flat, and no mirage", 6, () -> x.walker(0, 1));
+        due("why", 0, () -> x.why(0, 0));
+        CHECK.same("a third flat", 0, Check.flat(x, "mirage 1 1;tower 0 0 20 0;plain 0 0 9;"));
+        due("in", 1, () -> x.stroke(1));
+        CHECK.same("a fourth flat", 0, Check.flat(x, "plain 0 0 9;"));
+        CHECK.walker(x, 0, 0, 0, 9, 0, 0, -1, 0);
+        CHECK.counts(x, 6, 6, 0, 1, 0, 0, 0, 0, 0, 0, 0, 0, 0, 0, 0);
     }
 
     private static SaltBells searchedPlannedAndKept() {
@@ -199,8 +227,8 @@ public final class EdgeTapeTest {
         due("count(15)", Check.NO_SUCH, () -> x.count(15));
         due("count(16)", Check.NO_SUCH, () -> x.count(16));
 
-        CHECK.sentence("Promise 6", "7 STROKES that can be UNDONE, 8 DONE AGAIN, 9 who are in, 10 taken, 11 fallen, "
-            + "12 bytes of the tape, 13, 14 STATUS 0, 1");
+        CHECK.sentence("Promise 6", "0 W, 1 H, 2 TOWERS, 3 WALKERS, 4 WIND, 5 STRENGTH, 6 NIGHT, 7 STROKES that can be UNDONE, "
+            + "8 DONE AGAIN, 9 who are in, 10 taken, 11 fallen, 12 bytes of the tape, 13, 14 STATUS 0, 1");
         SaltBells all = CHECK.with("tower 0 0 1 0;tower 5 5 1 1 false;plain 0 0 1;plain 5 5 1;plain 3 3 0;camel 2 3 0;");
         CHECK.same("a fault", -2, Check.orders(all, "x"));
         CHECK.same("another fault", 1, Check.flat(all, "x"));

@@ -12,6 +12,7 @@ public final class EdgeTextTest {
         towers();
         walkers();
         windAndNight();
+        someCells();
         lengthOfAText();
         tokens();
         blanks();
@@ -151,6 +152,30 @@ public final class EdgeTextTest {
         }
     }
 
+    private static void someCells() {
+        CHECK.sentence("Terms 1", "MIRAGES: some CELLS.");
+        String all = "mirage 0 0;mirage 1 0;mirage 0 1;mirage 1 1;";
+        SaltBells x = CHECK.with("flat 2 2;tower 0 0 9 0;" + all + "plain 1 0 9;plain 0 1 9;plain 1 1 9;plain 0 0 9;");
+        due("all cells", 1, () -> x.stroke(1));
+        int[] cells = {1, 2, 3, 0};
+        for (int w = 0; w < cells.length; w++) {
+            CHECK.same("cell of " + w, cells[w], x.walker(w, 1));
+        }
+        CHECK.same("no cells", 0, Check.flat(x, "flat 2 2;tower 0 0 9 0;plain 1 0 9;plain 0 1 9;plain 1 1 9;plain 0 0 9;"));
+        due("by none", 3, () -> x.stroke(1));
+        SaltBells ends = CHECK.with("flat 10 10;tower 5 5 20 0;mirage 0 0;mirage 9 9;plain 0 0 9;plain 9 9 9;plain 0 1 9;");
+        ends.stroke(1);
+        CHECK.walker(ends, 0, 0, 0, 8, 3);
+        CHECK.walker(ends, 1, 0, 99, 8, 1);
+        CHECK.walker(ends, 2, 0, 11, 8, 1);
+        StringBuilder most = new StringBuilder("flat 10 5;");
+        for (int cell = 0; cell < 44; cell++) {
+            most.append("mirage ").append(cell % 10).append(' ').append(cell / 10).append(';');
+        }
+        bad(most.toString(), 0, -1);
+        bad(most.substring(0, 483) + "mirage 0 0;", 4, 492);
+    }
+
     private static void lengthOfAText() {
         CHECK.sentence("Terms 1", "A TEXT of at most 500 bytes tells it.");
         String full = " ".repeat(492) + "night 9;";
@@ -162,12 +187,16 @@ public final class EdgeTextTest {
         due("fault()", 499, less::fault);
         String many = "mirage 0 0;mirage 1 0;mirage 2 0;" + " ".repeat(466) + "x";
         bad(many, 1, 499);
+        bad(" ".repeat(493) + "night 1", 1, 500);
+        bad(" ".repeat(495) + "night", 1, 500);
     }
 
     private static void tokens() {
         CHECK.sentence("Terms 1", "words (a .. z, the longest row)");
         bad("nights 1;", 1, 0);
         bad("nigh t 1;", 1, 0);
+        bad("might 1;", 1, 0);
+        bad("nighs 1;", 1, 0);
         bad("windnorth 1;", 1, 0);
         bad("wind northnight 1;", 1, 5);
         bad("tower 0 0 1 0 strokes 1 falsefalse;", 1, 24);
@@ -221,6 +250,20 @@ public final class EdgeTextTest {
         bad("    ", 0, -1);
         bad(FIVE_TOWERS + FOUR_WALKERS + "wind north 1;night 1;mirage 0 0;mirage 0 1;", 0, -1);
 
+        CHECK.sentence("Terms 1", "LINE: ('flat' W H | 'tower' X Y RANGE VOICE ['strokes' NUMBER] ['false'] | ('plain' | 'stubborn' | "
+            + "'fearful' | 'child' | 'camel') X Y WATER | 'wind' ('north' | 'east' | 'south' | 'west') STRENGTH | "
+            + "'night' NUMBER | 'mirage' X Y) ';', all in capitals being NUMBERS.");
+        String[] whole = {"flat 3 4", "tower 1 2 3 0 strokes 4", "plain 1 2 3", "stubborn 1 2 3", "fearful 1 2 3", "child 1 2 3",
+            "camel 1 2 3", "wind north 1", "wind east 1", "wind south 1", "wind west 1", "night 1", "mirage 1 2"};
+        for (String line : whole) {
+            bad(line + ";", 0, -1);
+            bad(line + " 1;", 1, line.length() + 1);
+            for (int end = line.indexOf(' '); end >= 0; end = line.indexOf(' ', end + 1)) {
+                boolean optional = line.startsWith(" strokes", end);
+                bad(line.substring(0, end) + ";", optional ? 0 : 1, optional ? -1 : end);
+            }
+        }
+
         CHECK.sentence("Terms 1", "['strokes' NUMBER] ['false']");
         bad("tower 0 0 1 0;", 0, -1);
         bad("tower 0 0 1 0 strokes 1;", 0, -1);
@@ -272,7 +315,7 @@ public final class EdgeTextTest {
         CHECK.sentence("Terms 1", "1 a TOKEN that can't stand there, or is none (the text's length where it ends too soon)");
         for (int n = 0; n <= ALL_LINES.length(); n++) {
             String text = ALL_LINES.substring(0, n);
-            int word = startOfWordCut(n);
+            int word = Tokens.startOfWordCut(ALL_LINES, n);
             if (n == 0 || text.endsWith(";")) {
                 bad(text, 0, -1);
             } else {
@@ -281,8 +324,8 @@ public final class EdgeTextTest {
             }
         }
         for (int at = 0; at < ALL_LINES.length(); at++) {
-            if (startsToken(at)) {
-                int end = endOfToken(at);
+            if (Tokens.starts(ALL_LINES, at)) {
+                int end = Tokens.end(ALL_LINES, at);
                 for (String wrong : new String[] {"}", "{", "x", "?", "\u00ff"}) {
                     bad(ALL_LINES.substring(0, at) + " " + wrong + " " + ALL_LINES.substring(end), 1, at + 1);
                 }
@@ -292,34 +335,6 @@ public final class EdgeTextTest {
         bad("night 1;;", 1, 8);
         bad("1;", 1, 0);
         bad("night 1", 1, 7);
-    }
-
-    /** Where a word begins that is cut off at n in its midst; -1: none is. */
-    private static int startOfWordCut(int n) {
-        if (n == 0 || n >= ALL_LINES.length() || !isLetter(n - 1) || !isLetter(n)) {
-            return -1;
-        }
-        int at = n - 1;
-        while (at > 0 && isLetter(at - 1)) {
-            at--;
-        }
-        return at;
-    }
-
-    private static boolean isLetter(int at) {
-        return Character.isLetter(ALL_LINES.charAt(at));
-    }
-
-    private static boolean startsToken(int at) {
-        return ALL_LINES.charAt(at) != ' ' && !(isLetter(at) && at > 0 && isLetter(at - 1));
-    }
-
-    private static int endOfToken(int at) {
-        int end = at + 1;
-        while (isLetter(at) && end < ALL_LINES.length() && isLetter(end)) {
-            end++;
-        }
-        return end;
     }
 
     private static void faultTwo() {
