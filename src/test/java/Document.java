@@ -2,6 +2,8 @@ import java.io.IOException;
 import java.nio.charset.StandardCharsets;
 import java.nio.file.Files;
 import java.nio.file.Path;
+import java.util.Set;
+import java.util.TreeSet;
 
 /** The document's own words, so that a test can't quote a sentence that isn't there. */
 final class Document {
@@ -25,6 +27,17 @@ final class Document {
     /** Whether these words stand in a part: 'What it is', 'Terms 1' to 'Terms 5', 'Promise 1' to 'Promise 26'. */
     boolean says(String where, String words) {
         return plain(part(where)).contains(plain(words));
+    }
+
+    /** The calls of the public face, without the names of their arguments. */
+    Set<String> face() {
+        Set<String> calls = new TreeSet<>();
+        for (String line : below("The public face\n").split("\n")) {
+            if (line.startsWith("    public ") && line.contains("(") && !line.contains(" SaltBells(")) {
+                calls.add(line.trim().replaceAll("^public |;$", "").replaceAll("(int|boolean) \\w+([,)])", "$1$2"));
+            }
+        }
+        return calls;
     }
 
     private String part(String where) {

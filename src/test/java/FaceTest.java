@@ -2,8 +2,10 @@ import java.lang.reflect.Constructor;
 import java.lang.reflect.Field;
 import java.lang.reflect.Method;
 import java.lang.reflect.Modifier;
+import java.util.Arrays;
 import java.util.Set;
 import java.util.TreeSet;
+import java.util.stream.Collectors;
 
 /** The public face is the document's, and nothing inside bears a name of it. */
 public final class FaceTest {
@@ -38,6 +40,35 @@ public final class FaceTest {
             }
         }
         check.same("NONE", -1, SaltBells.NONE);
+        compareWithDocument(check);
         check.end();
+    }
+
+    private static void compareWithDocument(Check check) {
+        Document document = Document.read();
+        if (document == null) {
+            return;
+        }
+        Set<String> due = document.face();
+        Set<String> got = new TreeSet<>();
+        for (Method method : SaltBells.class.getDeclaredMethods()) {
+            if (Modifier.isPublic(method.getModifiers())) {
+                got.add(written(method));
+            }
+        }
+        check.same("calls of the face", FACE.size(), due.size());
+        check.due("the face is " + got + ", not " + due, true, due.equals(got));
+        check.same("a class that is public and final", Modifier.PUBLIC | Modifier.FINAL, SaltBells.class.getModifiers());
+    }
+
+    private static String written(Method method) {
+        String line = method.getReturnType().getSimpleName() + " " + method.getName()
+            + "(" + names(method.getParameterTypes()) + ")";
+        String thrown = names(method.getExceptionTypes());
+        return thrown.isEmpty() ? line : line + " throws " + thrown;
+    }
+
+    private static String names(Class<?>[] types) {
+        return Arrays.stream(types).map(Class::getSimpleName).collect(Collectors.joining(", "));
     }
 }
